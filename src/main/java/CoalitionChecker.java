@@ -430,13 +430,6 @@ public final class CoalitionChecker {
             Rows.put(plannedActions, state * MOST_AGENTS + agent, action);
         }
 
-        /** What the plan really does: an action that the agent has not counts as 0. */
-        int chosenAction(int state, int agent) {
-            int place = state * MOST_AGENTS + agent;
-            int action = Rows.at(plannedActions, place);
-            return action < Rows.at(actionCounts, place) ? action : 0;
-        }
-
         int target(int state, int move) {
             if (!hasState(state) || move < 0 || move >= moveLimit) {
                 return NOWHERE;
@@ -658,13 +651,16 @@ public final class CoalitionChecker {
             return found;
         }
 
-        /** The joint action that the plan tells. */
+        /** The joint action that the plan tells; an action that the agent has not counts as 0. */
         int chosenJoint(int coalition, int state) {
             int joint = 0;
             int weight = 1;
             for (int agent = 0; agent < structure.agentCount; agent++) {
-                if ((coalition >> agent & 1) != 0) {
-                    joint += structure.chosenAction(state, agent) * weight;
+                int place = state * MOST_AGENTS + agent;
+                int action = Rows.at(structure.plannedActions, place);
+                boolean hasAction = action < Rows.at(structure.actionCounts, place);
+                if (hasAction && (coalition >> agent & 1) != 0) {
+                    joint += action * weight;
                 }
                 weight *= MOST_ACTIONS;
             }

@@ -649,6 +649,15 @@ public final class PromisesTest {
         wheres(y, "[1](!gUg)", 8, 23, 8, 15);
         wheres(y, "[0](!gUg)", 8, 23, 8, 8);
         wheres(y, "[01](1Ug)", 31, 8, 8);
+        y.plan(0, 0, 1);
+        y.plan(1, 0, 2);
+        y.plan(2, 0, 1);
+        wheres(y, "[0]X!g", 8, 23, 19);
+        wheres(y, "[0]Fg", 8, 8);
+        wheres(y, "[0]F!g", 8, 23, 23);
+        wheres(y, "[0](!gUg)", 8, 23, 8, 8);
+        wheres(y, "<0>X!g", 8, 23, 23);
+        wheres(y, "<0>G!g", 8, 23, 23);
     }
 
     private static void holds() {
@@ -774,6 +783,8 @@ public final class PromisesTest {
         due("from 0", x.plan(0, 1, 2), 0);
         due("from 2", x.plan(0, 1, 1), 2);
         due("from 1", x.plan(0, 1, 1), 1);
+        due("to 0", x.plan(0, 1, 0), 1);
+        due("from 0 again", x.plan(0, 1, 1), 0);
         due("another agent", x.planned(0, 0), 0);
         due("another state", x.planned(1, 1), 0);
         due("3", x.plan(0, 1, 3), BAD);
@@ -782,9 +793,13 @@ public final class PromisesTest {
         due("no agent", x.plan(0, 2, 0), BAD);
         due("low", x.plan(LOW, LOW, LOW), BAD);
         due("high", x.plan(HIGH, HIGH, HIGH), BAD);
-        due("three edits of four", x.undo(), 3);
+        due("five edits of four", x.undo(), 3);
+        due("as it was", x.planned(0, 1), 0);
         x.undo();
-        due("as it was", x.planned(0, 1), 2);
+        x.undo();
+        due("and before", x.planned(0, 1), 1);
+        x.undo();
+        due("and at first", x.planned(0, 1), 2);
     }
 
     private static void adopt() {
@@ -904,12 +919,17 @@ public final class PromisesTest {
             x.plan(0, 0, 2);
             due("an action that it has not", x.play(0, 0, 1, seed), byReply[step(seed) % 3]);
         }
+        read(x, "<1>F0");
+        x.plan(0, 1, 1);
+        for (int seed : seeds) {
+            due("agent 1 keeps to 1, seed " + seed, x.play(4, 0, 1, seed), 2 - step(seed) % 2);
+        }
         due("it stays there", x.play(0, 2, 200, 1), 2);
         due("201", x.play(0, 0, 201, 1), BAD);
         due("-1", x.play(0, 0, -1, 1), BAD);
         due("no state", x.play(0, 3, 1, 1), BAD);
         due("no state", x.play(0, -1, 1, 1), BAD);
-        due("no formula", x.play(4, 0, 1, 1), BAD);
+        due("no formula", x.play(5, 0, 1, 1), BAD);
         due("a box", x.play(3, 0, 1, 1), FORM);
         due("rounds before the form", x.play(3, 0, 201, 1), BAD);
         due("low", x.play(LOW, LOW, LOW, LOW), BAD);
