@@ -1,6 +1,8 @@
 /** Long runs of calls, drawn from a fixed series of numbers, in which the class must answer as the model does. */
 public final class AgainstModelTest {
+    /** An object is used for at most so many calls; the room left for one draw stays unused. */
     private static final int CALLS = 512;
+    private static final int ONE_DRAW = 130;
     private static final String SIGNS = "!01abc()<>[]XFGU&|0123 ~dz";
 
     private final Dice dice;
@@ -37,7 +39,7 @@ public final class AgainstModelTest {
     }
 
     public static void main(String[] args) {
-        int runs = args.length > 0 ? Integer.parseInt(args[0]) : 300;
+        int runs = args.length > 0 ? Integer.parseInt(args[0]) : 700;
         int first = args.length > 1 ? Integer.parseInt(args[1]) : 1;
         int wrong = 0;
         for (int run = first; run < first + runs; run++) {
@@ -60,7 +62,7 @@ public final class AgainstModelTest {
         } else {
             shape(most);
         }
-        while (left > 0) {
+        while (left > ONE_DRAW) {
             // the model seeks among all sets, so many states are asked less often
             one(most);
             if (wrong > 5) {
@@ -231,8 +233,9 @@ public final class AgainstModelTest {
         }
     }
 
+    /** Takes two calls: the one that was asked, and the fingerprint, which nothing refused may change. */
     private void due(long got, long want) {
-        left--;
+        left -= 2;
         if (got != want) {
             wrong++;
             System.out.println("run " + run + ", call " + (CALLS - left) + ": " + call
@@ -407,7 +410,7 @@ public final class AgainstModelTest {
     }
 
     private void write(String text) {
-        for (int i = 0; i < text.length() && left > 1; i++) {
+        for (int i = 0; i < text.length() && left > 12; i++) {
             type(text.charAt(i));
         }
         read(text);
@@ -417,7 +420,7 @@ public final class AgainstModelTest {
         int length = dice.oneIn(10) ? 63 : dice.below(5);
         char only = "!(<[".charAt(dice.below(4));
         boolean same = dice.oneIn(2);
-        for (int i = 0; i < length && left > 1; i++) {
+        for (int i = 0; i < length && left > 12; i++) {
             type(same ? only : dice.oneIn(20) ? strange() : SIGNS.charAt(dice.below(SIGNS.length())));
         }
         read("noise");

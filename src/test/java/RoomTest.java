@@ -86,17 +86,16 @@ public final class RoomTest {
             calls += type(x, text);
         }
         for (int s = 0; s < 12; s++) {
-            for (int f = 0; f < 3; f++) {
-                x.where(f, s % 4);
-                x.holds(f, s);
-                x.counterexample(f, 1);
-                x.rank(f, s);
-                x.strategy(f, s);
-                x.enforced(f);
-                x.play(f, s, 20, s);
-                x.smallest(f, s);
-                calls += 8;
-            }
+            int f = s % 3;
+            x.where(f, s % 4);
+            x.holds(f, s);
+            x.counterexample(f, 1);
+            x.rank(f, s);
+            x.strategy(f, s);
+            x.enforced(f);
+            x.play(f, s, 20, s);
+            x.smallest(f, s);
+            calls += 8;
             x.force(s, s, 99);
             x.reply(1, s, 1, 99);
             x.forced(s, s);
