@@ -6,8 +6,10 @@ import java.lang.reflect.Modifier;
 import java.nio.file.Files;
 import java.nio.file.Path;
 import java.util.ArrayList;
+import java.util.HashMap;
 import java.util.HashSet;
 import java.util.List;
+import java.util.Map;
 import java.util.Set;
 import java.util.TreeSet;
 import java.util.regex.Matcher;
@@ -125,6 +127,7 @@ public final class LanguageTest {
             check(allowed.contains(library.group()), "rule 4: " + library.group());
         }
         lengths(code);
+        depths(code);
         rows(code);
     }
 
@@ -139,6 +142,37 @@ public final class LanguageTest {
             check(lines <= 60, "rule 11: " + lines + " lines: " + method.group());
         }
         check(methods > 100, "only " + methods + " methods seen");
+    }
+
+    /** Methods of one name are taken as one, so the chains that are found are no shorter than the true ones. */
+    private static void depths(String code) {
+        Matcher method = Pattern.compile("(?m)^(    |        )(?! )(?:[\\w\\[\\]]+ )*(\\w+)\\([^;=)]*\\) \\{$").matcher(code);
+        Map<String, String> bodies = new HashMap<>();
+        while (method.find()) {
+            int end = code.indexOf("\n" + method.group(1) + "}", method.end());
+            bodies.merge(method.group(2), code.substring(method.end(), end), String::concat);
+        }
+        Map<String, Set<String>> calls = new HashMap<>();
+        for (String name : bodies.keySet()) {
+            Set<String> called = new TreeSet<>();
+            Matcher call = Pattern.compile("\\b(\\w+)\\(").matcher(bodies.get(name));
+            while (call.find()) {
+                if (bodies.containsKey(call.group(1))) {
+                    called.add(call.group(1));
+                }
+            }
+            calls.put(name, called);
+        }
+        for (String name : calls.keySet()) {
+            chain(calls, name, name, 1);
+        }
+    }
+
+    private static void chain(Map<String, Set<String>> calls, String name, String told, int depth) {
+        check(depth <= 8, "rule 11: " + depth + " calls deep: " + told);
+        for (String next : depth <= 8 ? calls.get(name) : Set.<String>of()) {
+            chain(calls, next, told + " > " + next, depth + 1);
+        }
     }
 
     /** Rule 7: an array is reached only where the index was looked at on the lines before. */
